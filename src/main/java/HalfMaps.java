@@ -291,7 +291,7 @@ public final class HalfMaps {
         if (!network.makeReady(now.words[word], now.rules)) {
             return NONE;
         }
-        return oneIf(network.follow(network.begin, now.words[other]) == network.end);
+        return oneIf(network.accepts(now.words[other]));
     }
 
     // ---- 5 images
@@ -377,7 +377,7 @@ public final class HalfMaps {
     /** A TREE is connected, so it has all places of a WORD just when that WORD can be walked inside it. */
     private boolean isUnder(Word lower, Word upper) {
         walk.grow(lower);
-        return walk.follow(upper) == walk.end;
+        return walk.accepts(upper);
     }
 
     private int rulesTold() {
@@ -564,6 +564,15 @@ public final class HalfMaps {
         void copyFrom(Word other) {
             System.arraycopy(other.letters, 0, letters, 0, MOST_SIGNS);
             length = other.length;
+        }
+
+        /** Where this word comes to from a place, by links of six letters for each place; or NOWHERE. */
+        int follow(int[] links, int place) {
+            int at = place;
+            for (int i = 0; i < length && at >= 0; i++) {
+                at = links[at * LETTERS + letters[i]];
+            }
+            return at;
         }
     }
 
@@ -809,13 +818,9 @@ public final class HalfMaps {
             places++;
         }
 
-        /** Where a word comes to from ROOT inside this tree, or NOWHERE. */
-        int follow(Word word) {
-            int at = 0;
-            for (int i = 0; i < word.length && at >= 0; i++) {
-                at = links[at * LETTERS + word.letters[i]];
-            }
-            return at;
+        /** Whether a word walks from ROOT to END inside this tree. */
+        boolean accepts(Word word) {
+            return word.follow(links, 0) == end;
         }
 
         int farthest() {
@@ -844,8 +849,8 @@ public final class HalfMaps {
     }
 
     /**
-     * The NET of a WORD. It is kept FOLDED after each joint; the order in which
-     * places become one does not matter, so this is as if all were FOLDED at last.
+     * The NET of a WORD. Places that clash begin to become one as soon as a joint is
+     * sewn: the order does not matter, so this is as if all were sewn and then FOLDED.
      */
     private static final class Net {
         private static final int MOST_PLACES = 24;
@@ -863,7 +868,7 @@ public final class HalfMaps {
         private final int[] renumbered = new int[ROOM];
         private final int[] seamEnds = new int[MOST_PLACES * SEAMS];
         int places = 0;
-        int begin = 0;
+        private int begin = 0;
         int end = 0;
         int rounds = 0;
 
@@ -873,6 +878,7 @@ public final class HalfMaps {
             rounds = 0;
             while (rounds < MOST_ROUNDS && planSeams(rules)) {
                 sewSeams(rules);
+                fold();
                 renumber();
                 rounds++;
                 if (places > MOST_PLACES) {
@@ -888,9 +894,10 @@ public final class HalfMaps {
             end = begin;
             for (int i = 0; i < word.length; i++) {
                 int next = newPlace();
-                join(end, word.letters[i], next);
+                link(end, word.letters[i], next);
                 end = next;
             }
+            fold();
             renumber();
         }
 
@@ -912,11 +919,11 @@ public final class HalfMaps {
             boolean any = false;
             for (int p = 0; p < places && p < MOST_PLACES; p++) {
                 for (int r = 0; r < RULES; r++) {
-                    int there = rules[r].told ? follow(p, rules[r].one) : NOWHERE;
-                    int back = rules[r].told ? follow(p, rules[r].other) : NOWHERE;
-                    boolean differ = there != back;
-                    seamEnds[p * SEAMS + 2 * r] = differ ? there : NOWHERE;
-                    seamEnds[p * SEAMS + 2 * r + 1] = differ ? back : NOWHERE;
+                    int oneEnd = rules[r].told ? rules[r].one.follow(links, p) : NOWHERE;
+                    int otherEnd = rules[r].told ? rules[r].other.follow(links, p) : NOWHERE;
+                    boolean differ = oneEnd != otherEnd;
+                    seamEnds[p * SEAMS + 2 * r] = differ ? oneEnd : NOWHERE;
+                    seamEnds[p * SEAMS + 2 * r + 1] = differ ? otherEnd : NOWHERE;
                     any = any || differ;
                 }
             }
@@ -938,39 +945,31 @@ public final class HalfMaps {
                 return;
             }
             if (word.length == 0) {
-                unite(from, to);
+                merge(from, to);
                 return;
             }
             int at = from;
             for (int i = 0; i < word.length - 1; i++) {
                 int next = newPlace();
-                join(at, word.letters[i], next);
+                link(at, word.letters[i], next);
                 at = next;
             }
-            join(at, word.letters[word.length - 1], to);
+            link(at, word.letters[word.length - 1], to);
         }
 
-        private void join(int from, int letter, int to) {
-            link(placeNow(from), letter, placeNow(to));
-            settle();
-        }
-
-        private void unite(int one, int other) {
-            merge(one, other);
-            settle();
-        }
-
-        /** Joins two standing places; where a like joint is there already, its other end is merged instead. */
+        /** Joins two places; where a like joint is there already, its other end is merged instead. */
         private void link(int from, int letter, int to) {
-            int ahead = links[from * LETTERS + letter];
-            int behind = links[to * LETTERS + (letter ^ 1)];
+            int a = placeNow(from);
+            int b = placeNow(to);
+            int ahead = links[a * LETTERS + letter];
+            int behind = links[b * LETTERS + (letter ^ 1)];
             if (ahead >= 0) {
-                merge(ahead, to);
+                merge(ahead, b);
             } else if (behind >= 0) {
-                merge(behind, from);
+                merge(behind, a);
             } else {
-                links[from * LETTERS + letter] = to;
-                links[to * LETTERS + (letter ^ 1)] = from;
+                links[a * LETTERS + letter] = b;
+                links[b * LETTERS + (letter ^ 1)] = a;
             }
         }
 
@@ -987,7 +986,7 @@ public final class HalfMaps {
         }
 
         /** Each place goes at most once, so the row of those that have gone has an end. */
-        private void settle() {
+        private void fold() {
             for (int i = 0; i < goneCount && i < ROOM; i++) {
                 handOver(gone[i]);
             }
@@ -1001,7 +1000,7 @@ public final class HalfMaps {
                 if (next >= 0) {
                     links[place * LETTERS + letter] = NOWHERE;
                     links[next * LETTERS + (letter ^ 1)] = NOWHERE;
-                    link(placeNow(place), letter, placeNow(next));
+                    link(place, letter, next);
                 }
             }
         }
@@ -1045,13 +1044,9 @@ public final class HalfMaps {
             }
         }
 
-        /** Where a word is read to from a place, or NOWHERE. */
-        int follow(int place, Word word) {
-            int at = place;
-            for (int i = 0; i < word.length && at >= 0; i++) {
-                at = links[at * LETTERS + word.letters[i]];
-            }
-            return at;
+        /** Whether a word is read from BEGIN to END. */
+        boolean accepts(Word word) {
+            return word.follow(links, begin) == end;
         }
 
         int joints() {

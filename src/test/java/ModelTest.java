@@ -76,7 +76,9 @@ public final class ModelTest {
 
     private static void planCalls(List<int[]> plan, Random random, int run) {
         int kind = random.nextInt(10);
-        if (kind < 3) {
+        if (run % 3 == 1 && kind < 5) {
+            planNet(plan, random);
+        } else if (kind < 3) {
             planWord(plan, random, run);
         } else if (kind == 3) {
             plan.add(new int[] {0, random.nextInt(6), randomMap(random)});
@@ -99,6 +101,32 @@ public final class ModelTest {
             plan.add(new int[] {6, sign});
         }
         plan.add(new int[] {8, random.nextInt(4)});
+    }
+
+    /** Two rules of four words, one of which is then written anew and has its net looked at. */
+    private static void planNet(List<int[]> plan, Random random) {
+        int most = 1 + random.nextInt(random.nextInt(3) == 0 ? 12 : 5);
+        int letters = 2 * (1 + random.nextInt(3));
+        for (int w = 0; w < 4; w++) {
+            planLetters(plan, random, w, random.nextInt(most + 1), letters);
+        }
+        plan.add(new int[] {14, 0, 1, 0, 1});
+        plan.add(new int[] {14, 1, random.nextInt(3) == 0 ? 0 : 1, 2, 3});
+        planLetters(plan, random, random.nextInt(4), random.nextInt(13), letters);
+        for (int w = 0; w < 4; w++) {
+            for (int what = 0; what < 3; what++) {
+                plan.add(new int[] {15, w, what});
+            }
+            plan.add(new int[] {16, w, random.nextInt(4)});
+        }
+    }
+
+    private static void planLetters(List<int[]> plan, Random random, int word, int length, int letters) {
+        plan.add(new int[] {7});
+        for (int i = 0; i < length; i++) {
+            plan.add(new int[] {6, "xXyYzZ".charAt(random.nextInt(letters))});
+        }
+        plan.add(new int[] {8, word});
     }
 
     private static int randomMap(Random random) {
