@@ -875,6 +875,8 @@ public final class HalfMaps {
         /** Whether the NET becomes READY; if not, it is TOO GREAT. */
         boolean makeReady(Word word, Rule[] rules) {
             layOut(word);
+            fold();
+            renumber();
             rounds = 0;
             while (rounds < MOST_ROUNDS && planSeams(rules)) {
                 sewSeams(rules);
@@ -897,8 +899,6 @@ public final class HalfMaps {
                 link(end, word.letters[i], next);
                 end = next;
             }
-            fold();
-            renumber();
         }
 
         private int newPlace() {
