@@ -346,6 +346,11 @@ public final class EdgesTest {
         for (int odd : new int[] {-1, 5, -2, 6, 256, MIN, MAX}) {
             due("leads(5, " + odd + ")", x.leads(5, odd), UNKNOWN);
         }
+        says("leads: UNKNOWN: both");
+        for (int odd : new int[] {-1, 6, 256, MIN, MAX}) {
+            due("leads(" + odd + ", 0)", x.leads(odd, 0), UNKNOWN);
+            due("leads(" + odd + ", 5)", x.leads(odd, 5), UNKNOWN);
+        }
         says("NONE: nowhere");
         for (int p = 0; p < 5; p++) {
             due("leads(0, " + p + ")", x.leads(0, p), NONE);
@@ -418,9 +423,15 @@ public final class EdgesTest {
         for (int s = 0; s < 6; s++) {
             due("of(" + s + ", 0)", x.of(s, 0), s);
         }
+        says("set: UNKNOWN");
+        for (int odd : new int[] {-1, 6, 256, MIN, MAX}) {
+            due("set(" + odd + ", 0)", x.set(odd, 0), UNKNOWN);
+            due("set(" + odd + ", 7)", x.set(odd, 7), UNKNOWN);
+        }
+        says("of: UNKNOWN; OUTSIDE");
         for (int odd : new int[] {-1, 6, 256, MIN, MAX}) {
             due("of(" + odd + ", 0)", x.of(odd, 0), UNKNOWN);
-            due("set(" + odd + ", 0)", x.set(odd, 0), UNKNOWN);
+            due("of(" + odd + ", 4)", x.of(odd, 4), UNKNOWN);
         }
         for (int odd : new int[] {-1, 4, 256, MIN, MAX}) {
             due("of(0, " + odd + ")", x.of(0, odd), OUTSIDE);
@@ -919,10 +930,12 @@ public final class EdgesTest {
     private static void rootAlone() {
         says("TREE of a WORD: a walk from ROOT (of no letters: ROOT alone)");
         treeIs("", 1, 0, 0, 0);
+        says("tree: UNKNOWN; OUTSIDE");
         HalfMaps x = new HalfMaps();
         for (int odd : new int[] {-1, 4, 256, MIN, MAX}) {
             due("tree(0, " + odd + ")", x.tree(0, odd), OUTSIDE);
             due("tree(" + odd + ", 0)", x.tree(odd, 0), UNKNOWN);
+            due("tree(" + odd + ", 4)", x.tree(odd, 4), UNKNOWN);
         }
         says("each letter goes on to a new place");
         for (char letter : "xXyYzZ".toCharArray()) {
@@ -978,6 +991,7 @@ public final class EdgesTest {
         HalfMaps x = new HalfMaps();
         due("a WORD with itself", x.compare(3, 3), 1);
         due("two without letters", x.compare(0, 3), 1);
+        says("compare: UNKNOWN: both");
         for (int odd : new int[] {-1, 4, 256, MIN, MAX}) {
             due("compare(" + odd + ", 0)", x.compare(odd, 0), UNKNOWN);
             due("compare(0, " + odd + ")", x.compare(0, odd), UNKNOWN);
