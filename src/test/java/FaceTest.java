@@ -1,24 +1,18 @@
-import java.io.IOException;
 import java.lang.reflect.Constructor;
 import java.lang.reflect.Field;
 import java.lang.reflect.Method;
 import java.lang.reflect.Modifier;
-import java.nio.file.Files;
-import java.nio.file.Path;
 import java.util.Arrays;
 import java.util.Set;
 import java.util.TreeSet;
-import java.util.regex.Matcher;
-import java.util.regex.Pattern;
 
-/** The class has the document's face and no more, and its text keeps the rules of LANGUAGE.md that can be looked up. */
+/** The class has the document's face and no more. */
 public final class FaceTest {
     private static int wrong = 0;
 
-    public static void main(String[] args) throws IOException {
+    public static void main(String[] args) {
         face();
         constants();
-        language();
         System.out.println(wrong == 0 ? "the face is as due" : wrong + " faults of the face");
         if (wrong != 0) {
             System.exit(1);
@@ -101,24 +95,6 @@ public final class FaceTest {
         int[] values = {HalfMaps.UNKNOWN, HalfMaps.OUTSIDE, HalfMaps.STATE, HalfMaps.FULL, HalfMaps.NONE, HalfMaps.FAULT};
         if (!Arrays.equals(values, new int[] {-1, -2, -3, -4, -6, -7})) {
             fault("the constants' values are " + Arrays.toString(values));
-        }
-    }
-
-    private static void language() throws IOException {
-        String text = Files.readString(Path.of("src/main/java/HalfMaps.java"));
-        String code = text.replaceAll("(?s)/\\*.*?\\*/", "").replaceAll("//[^\n]*", "");
-        String[] ruledOut = {"\\bthrow\\b", "\\btry\\b", "\\bcatch\\b", "\\bsynchronized\\b", "\\bassert\\b", "\\bpackage\\b",
-            "->", "::", "\\bObject\\b", "\\bequals\\b", "\\bhashCode\\b", "\\btoString\\b", "\\w+Exact\\b", "\\bRandom\\b",
-            "\\bSystem\\.(?!arraycopy\\b)\\w+", "\\bArrays\\.(?!copyOf\\b|copyOfRange\\b|fill\\b)\\w+",
-            "\\bimport (?!java\\.util\\.(Arrays|ArrayList|List|Iterator);)[^\n]*", "\\bprotected\\b", "\\bfloat\\b|\\bdouble\\b"};
-        for (String pattern : ruledOut) {
-            Matcher m = Pattern.compile(pattern).matcher(code);
-            if (m.find()) {
-                fault("ruled out by LANGUAGE.md: " + m.group());
-            }
-        }
-        if (!text.chars().allMatch(sign -> sign == '\n' || sign >= 32 && sign < 127)) {
-            fault("a sign that is not 32 to 126");
         }
     }
 }
